@@ -1,0 +1,113 @@
+/** Promises 14, 15, 16, 17 and 19. */
+public final class ViewTest {
+    private static final int[] FAR = {Integer.MIN_VALUE, -2, -1, 1000, Integer.MAX_VALUE};
+
+    /** DATA files 1 and 2, the OUTPUT 3 with its HINT, the OUTPUT 4, the ACTIVE file 5. */
+    private static Keep busy() {
+        Keep k = Keep.formatted(2048, 128);
+        k.put("a", "x".repeat(64));
+        k.put("bb", "y".repeat(64));
+        k.x.sync();
+        k.x.mergeBegin();
+        k.x.mergeStep(2);
+        k.put("c\u00fe", "zz");
+        return k;
+    }
+
+    private static void file() {
+        Keep k = busy();
+        int[][] due = {{1, 0, 79, 0}, {2, 0, 80, 0}, {3, 0, 79, 79}, {3, 1, 23, 23}, {4, 0, 80, 80}, {5, 0, 18, 18}};
+        for (int f = 0; f < due.length; f++) {
+            for (int what = 0; what < 4; what++) Check.same("file(" + f + ", " + what + ")", k.x.file(f, what), due[f][what]);
+            Check.same("file(" + f + ", 4)", k.x.file(f, 4), -1);
+            for (int far : FAR) Check.same("file of another what", k.x.file(f, far), -1);
+        }
+        Check.same("file(6, 0)", k.x.file(6, 0), -1);
+        for (int far : FAR) Check.same("file far off", k.x.file(far, 0), -1);
+        k.x.crash(80);
+        Check.same("file of a closed store", k.files(), "1D79-0 2D80-0 3D79-0 3H1-0");
+    }
+
+    private static void byteOf() {
+        Keep k = busy();
+        Check.same("a byte of the key", k.x.byteOf(0, 14), 'a');
+        Check.same("the last byte", k.x.byteOf(1, 79), 'y');
+        Check.same("a byte above 127", k.x.byteOf(5, 15), 254);
+        Check.same("a byte of a HINT", k.x.byteOf(3, 3), 1);
+        Check.same("behind the last byte", k.x.byteOf(1, 80), -1);
+        Check.same("behind the last file", k.x.byteOf(6, 0), -1);
+        for (int far : FAR) {
+            Check.same("byteOf far off", k.x.byteOf(far, 0), -1);
+            Check.same("byteOf far off", k.x.byteOf(0, far), -1);
+        }
+        k.x.crash(0);
+        Check.same("byteOf of a closed store", k.x.byteOf(0, 14), 'a');
+    }
+
+    private static void entryAndKey() {
+        Keep k = busy();
+        int[][] due = {{1, 64, 3, 0, 1}, {2, 64, 4, 0, 2}, {2, 2, 5, 0, 3}};
+        for (int i = 0; i < due.length; i++) {
+            for (int what = 0; what < 5; what++) Check.same("entry(" + i + ", " + what + ")", k.x.entry(i, what), due[i][what]);
+            Check.same("entry(" + i + ", 5)", k.x.entry(i, 5), -1);
+            Check.same("key behind its bytes", k.x.key(i, due[i][0]), -1);
+            for (int far : FAR) {
+                Check.same("entry of another what", k.x.entry(i, far), -1);
+                Check.same("key far off", k.x.key(i, far), -1);
+            }
+        }
+        Check.same("key(0, 0)", k.x.key(0, 0), 'a');
+        Check.same("key(1, 1)", k.x.key(1, 1), 'b');
+        Check.same("key(2, 1)", k.x.key(2, 1), 254);
+        Check.same("entry(3, 0)", k.x.entry(3, 0), -1);
+        Check.same("key(3, 0)", k.x.key(3, 0), -1);
+        for (int far : FAR) {
+            Check.same("entry far off", k.x.entry(far, 0), -1);
+            Check.same("key far off", k.x.key(far, 0), -1);
+        }
+        k.x.crash(0);
+        Check.same("entry of a closed store", k.x.entry(0, 0), -1);
+        Check.same("key of a closed store", k.x.key(0, 0), -1);
+    }
+
+    private static void looks(String when, Keep k, int... due) {
+        for (int what = 0; what < due.length; what++) Check.same("look(" + what + ") " + when, k.x.look(what), due[what]);
+        Check.same("look(20) " + when, k.x.look(20), -1);
+        for (int far : FAR) Check.same("look(" + far + ") " + when, k.x.look(far), -1);
+    }
+
+    private static void look() {
+        Keep k = busy();
+        k.feed("tape");
+        looks("in a MERGE", k, 1, 2048, 128, 6, 2048 - 359, 200, 4, 0, 0, 0, 0, 3, 4, 6, 5, 4, 4, 24 + 16, 177, 336 - 177);
+        k.x.crash(105);
+        looks("behind a crash", k, 0, 2048, 128, 5, 2048 - 264, 0, 4, 0, 0, 0, 0, -1, -1, -1, -1, -1, -1, -1, -1, -1);
+        k.x.open();
+        looks("behind an opening", k, 1, 2048, 128, 4, 2048 - 261, 0, 4, 1, 2, 3, 1, 2, 3, 5, -1, -1, 0, 0, 159, 238 - 159);
+    }
+
+    /** Two keys at one PLACE, told by a patched HINT: the DATA files have fewer bytes than is LIVE. */
+    private static void belowNothing() {
+        Keep k = new Keep();
+        k.put("a", "x".repeat(64));
+        k.put("b", "1");
+        k.x.mergeBegin();
+        k.x.mergeStep(9);
+        k.x.crash(0);
+        k.patchNumber(1, 19 + 4, 0);
+        k.patchNumber(1, 19 + 10, 64);
+        k.mendSum(1);
+        Check.same("keys", k.x.open(), 2);
+        Check.same("look(18)", k.x.look(18), 158);
+        Check.same("look(19)", k.x.look(19), 95 - 158);
+    }
+
+    public static void main(String[] args) {
+        file();
+        byteOf();
+        entryAndKey();
+        look();
+        belowNothing();
+        Check.end();
+    }
+}
