@@ -114,6 +114,24 @@ public final class MergeTest {
         Check.same("files", k.files(), "3D94-0 4D79-0 4H23-0 5D94-15 6D79-0 6H23-0");
     }
 
+    /** An OUTPUT may have just FILEMOST bytes; one more needs the next. */
+    private static void fullOutputs() {
+        for (int more = 0; more < 2; more++) {
+            Keep k = Keep.formatted(4096, 128);
+            k.put("a", "x".repeat(49));
+            k.put("b", "x".repeat(49 + more));
+            k.put("c", "x".repeat(35));
+            Check.same("INPUTS", k.files(), more == 0 ? "1D128-128 2D50-50" : "1D64-64 2D115-115");
+            k.x.mergeBegin();
+            int need = 178 + more + 3 * 15 + 2 * 8 + 16;
+            Check.same("RESERVED", k.x.look(17), need);
+            k.x.mergeStep(4);
+            Check.same("files", k.files(), more == 0
+                ? "1D128-0 2D50-0 3D128-0 3H38-0 4D50-0 4H23-0 5M16-0"
+                : "1D64-0 2D115-0 3D64-0 3H23-0 4D115-0 4H38-0 5M16-0");
+        }
+    }
+
     private static void nothingLive() {
         Keep k = new Keep();
         Check.same("mergeBegin() without DATA", k.x.mergeBegin(), 0);
@@ -218,6 +236,7 @@ public final class MergeTest {
         unitByUnit();
         meanwhile();
         numbers();
+        fullOutputs();
         nothingLive();
         room();
         wrongOnes();
