@@ -22,6 +22,13 @@ public final class AppendKeep {
     /** A HINT and a MARK have a number ahead of all else and a SUM behind it. */
     private static final int FRAME = 8;
     private static final int NUMBER_BYTES = 4;
+    /** A RECORD begins with its SUM, the STAMP is behind that. */
+    private static final int STAMP_AT = 4;
+    /** A HINT's entry begins with its STAMP, the PLACE is behind that. */
+    private static final int PLACE_AT = 4;
+    /** Both have the sizes at the same place. */
+    private static final int KSIZE_AT = 8;
+    private static final int VSIZE_AT = 10;
 
     private static final int KEY_MOST = 16;
     private static final int VALUE_MOST = 64;
@@ -45,7 +52,8 @@ public final class AppendKeep {
     /** The tape's bytes while a call that has emptied it uses them. */
     private final Bytes taken = new Bytes();
     private final Bytes found = new Bytes();
-    private final Bytes record = new Bytes();
+    /** The RECORD that a WRITE makes. */
+    private final Bytes draft = new Bytes();
     private final Disk disk = new Disk();
     private final Directory directory = new Directory();
     private final Merge merge = new Merge(disk, directory);
@@ -340,30 +348,30 @@ public final class AppendKeep {
 
     /** Writes the RECORD of what was taken from the tape: its PLACE in the ACTIVE file. */
     private int write(int keySize, int valueSize) {
-        record.clear();
-        record.addNumber(0);
-        record.addNumber(nextStamp);
-        record.addShort(keySize);
-        record.addNumber(valueSize);
-        record.addPart(taken, 0, taken.size());
-        record.changeNumber(0, record.sum(NUMBER_BYTES, record.size()));
+        draft.clear();
+        draft.addNumber(0);
+        draft.addNumber(nextStamp);
+        draft.addShort(keySize);
+        draft.addNumber(valueSize);
+        draft.addPart(taken, 0, taken.size());
+        draft.changeNumber(0, draft.sum(STAMP_AT, draft.size()));
         nextStamp++;
         int place = disk.sizeOf(active, DATA);
-        if (active == NONE || place + record.size() > disk.fileMost) {
+        if (active == NONE || place + draft.size() > disk.fileMost) {
             active = disk.takeNumber();
             place = 0;
         }
-        disk.append(active, DATA, record, 0, record.size());
+        disk.append(active, DATA, draft, 0, draft.size());
         return place;
     }
 
     private static boolean isBad(Row row, Bytes data) {
         int end = row.place + row.recordBytes();
         return end > data.size()
-            || data.numberAt(row.place) != data.sum(row.place + NUMBER_BYTES, end)
-            || data.numberAt(row.place + 4) != row.stamp
-            || data.shortAt(row.place + 8) != row.key.size()
-            || data.numberAt(row.place + 10) != row.valueSize
+            || data.numberAt(row.place) != data.sum(row.place + STAMP_AT, end)
+            || data.numberAt(row.place + STAMP_AT) != row.stamp
+            || data.shortAt(row.place + KSIZE_AT) != row.key.size()
+            || data.numberAt(row.place + VSIZE_AT) != row.valueSize
             || row.key.compare(data, row.place + HEAD, row.key.size()) != 0;
     }
 
@@ -482,6 +490,10 @@ public final class AppendKeep {
         private int number;
         private int kind;
         private int unsynced;
+
+        boolean isOf(int otherNumber, int otherKind) {
+            return number == otherNumber && kind == otherKind;
+        }
     }
 
     /** Bytes that came to one file, ahead of any that came to another one. */
@@ -522,7 +534,7 @@ public final class AppendKeep {
 
         DiskFile find(int number, int kind) {
             DiskFile file = at(placeFor(number, kind));
-            return file != null && file.number == number && file.kind == kind ? file : null;
+            return file != null && file.isOf(number, kind) ? file : null;
         }
 
         int sizeOf(int number, int kind) {
@@ -588,7 +600,7 @@ public final class AppendKeep {
         void append(int number, int kind, Bytes source, int from, int n) {
             int place = placeFor(number, kind);
             DiskFile file = at(place);
-            if (file == null || file.number != number || file.kind != kind) {
+            if (file == null || !file.isOf(number, kind)) {
                 file = takeSpare();
                 file.number = number;
                 file.kind = kind;
@@ -602,7 +614,7 @@ public final class AppendKeep {
         boolean discard(int number, int kind) {
             int place = placeFor(number, kind);
             DiskFile file = at(place);
-            if (file == null || file.number != number || file.kind != kind) {
+            if (file == null || !file.isOf(number, kind)) {
                 return false;
             }
             discardAt(place);
@@ -1032,9 +1044,10 @@ public final class AppendKeep {
         private void readHint(DiskFile hint) {
             Bytes bytes = hint.bytes;
             int end = bytes.size() - NUMBER_BYTES;
-            for (int at = NUMBER_BYTES; at < end; at += HEAD + bytes.shortAt(at + 8)) {
-                Row row = directory.rowFor(bytes, at + HEAD, bytes.shortAt(at + 8));
-                read(row, hint.number, bytes.numberAt(at + 4), bytes.numberAt(at + 10), bytes.numberAt(at));
+            for (int at = NUMBER_BYTES; at < end; at += HEAD + bytes.shortAt(at + KSIZE_AT)) {
+                Row row = directory.rowFor(bytes, at + HEAD, bytes.shortAt(at + KSIZE_AT));
+                int place = bytes.numberAt(at + PLACE_AT);
+                read(row, hint.number, place, bytes.numberAt(at + VSIZE_AT), bytes.numberAt(at));
                 hintEntries++;
             }
         }
@@ -1043,10 +1056,10 @@ public final class AppendKeep {
             Bytes bytes = data.bytes;
             int at = 0;
             for (int turn = bytes.size(); turn > 0 && isWhole(bytes, at); turn--) {
-                int keySize = bytes.shortAt(at + 8);
-                int valueSize = bytes.numberAt(at + 10);
+                int keySize = bytes.shortAt(at + KSIZE_AT);
+                int valueSize = bytes.numberAt(at + VSIZE_AT);
                 Row row = directory.rowFor(bytes, at + HEAD, keySize);
-                read(row, data.number, at, valueSize, bytes.numberAt(at + 4));
+                read(row, data.number, at, valueSize, bytes.numberAt(at + STAMP_AT));
                 records++;
                 at += recordSize(keySize, valueSize);
             }
@@ -1092,7 +1105,7 @@ public final class AppendKeep {
                 return false;
             }
             int count = 0;
-            for (int at = NUMBER_BYTES; at < end; at += HEAD + hint.shortAt(at + 8)) {
+            for (int at = NUMBER_BYTES; at < end; at += HEAD + hint.shortAt(at + KSIZE_AT)) {
                 if (!isGoodEntry(hint, at, end, dataSize)) {
                     return false;
                 }
@@ -1105,9 +1118,9 @@ public final class AppendKeep {
             if (at + HEAD > end) {
                 return false;
             }
-            int place = hint.numberAt(at + 4);
-            int keySize = hint.shortAt(at + 8);
-            int valueSize = hint.numberAt(at + 10);
+            int place = hint.numberAt(at + PLACE_AT);
+            int keySize = hint.shortAt(at + KSIZE_AT);
+            int valueSize = hint.numberAt(at + VSIZE_AT);
             return isTold(hint.numberAt(at), keySize, valueSize)
                 && at + HEAD + keySize <= end
                 && place >= 0 && place <= dataSize - recordSize(keySize, valueSize);
@@ -1117,13 +1130,13 @@ public final class AppendKeep {
             if (at + HEAD > data.size()) {
                 return false;
             }
-            int keySize = data.shortAt(at + 8);
-            int valueSize = data.numberAt(at + 10);
-            if (!isTold(data.numberAt(at + 4), keySize, valueSize)) {
+            int keySize = data.shortAt(at + KSIZE_AT);
+            int valueSize = data.numberAt(at + VSIZE_AT);
+            if (!isTold(data.numberAt(at + STAMP_AT), keySize, valueSize)) {
                 return false;
             }
             int end = at + recordSize(keySize, valueSize);
-            return end <= data.size() && data.numberAt(at) == data.sum(at + NUMBER_BYTES, end);
+            return end <= data.size() && data.numberAt(at) == data.sum(at + STAMP_AT, end);
         }
     }
 }
