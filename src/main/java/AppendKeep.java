@@ -179,7 +179,6 @@ public final class AppendKeep {
         if (isOpen) {
             throw new IllegalStateException("the store is open");
         }
-        forget();
         opening.clear();
         disk.countNumbers();
         opening.obeyMarks();
@@ -867,7 +866,6 @@ public final class AppendKeep {
         }
 
         void start(int need) {
-            stop();
             underWay = true;
             limit = disk.nextNumber;
             reserved = need;

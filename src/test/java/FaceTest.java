@@ -62,7 +62,8 @@ public final class FaceTest {
         Check.same("it is public", Modifier.isPublic(constructors[0].getModifiers()) ? 1 : 0, 1);
         Check.same("the class is public and final", c.getModifiers(), Modifier.PUBLIC | Modifier.FINAL);
         for (Class<?> inner : c.getDeclaredClasses()) {
-            Check.same(inner + " is private and static", inner.getModifiers() & 15, Modifier.PRIVATE | Modifier.STATIC);
+            int seen = inner.getModifiers() & (Modifier.PUBLIC | Modifier.PROTECTED | Modifier.STATIC);
+            Check.same(inner + " is private or package-visible, and static", seen, Modifier.STATIC);
         }
         Check.end();
     }

@@ -31,6 +31,51 @@ public final class GetTest {
         }
     }
 
+    /** "also one of no or too many bytes": the longest key is there, and one byte more. */
+    private static void longest() {
+        for (int n = 0; n <= 80; n++) {
+            Keep k = new Keep();
+            k.put("k".repeat(16), "v".repeat(64));
+            k.get("k".repeat(16));
+            Check.same("get by " + n + " bytes", k.get("k".repeat(n)), n == 16 ? "v".repeat(64) : "-1");
+            Check.same("its ANSWER", k.answer(), n == 16 ? "v".repeat(64) : "");
+        }
+        Keep k = new Keep();
+        k.put("k", "");
+        Check.same("get by 1 byte", k.feed("k").x.get(), 0);
+        Check.same("get by 2 bytes", k.feed("kk").x.get(), -1);
+    }
+
+    /** answer(i): below the first byte, the first, the last, and one above, of values of 0 to 64 bytes. */
+    private static void answers() {
+        for (int n = 0; n <= 64; n++) {
+            Keep k = new Keep();
+            k.put("a", "v".repeat(n));
+            Check.same("get of " + n + " bytes", k.feed("a").x.get(), n);
+            int[] none = {Integer.MIN_VALUE, -2, -1, n, n + 1, 64, 80, 255, Integer.MAX_VALUE};
+            for (int i : none) Check.same("answer(" + i + ") of " + n + " bytes", k.x.answer(i), -1);
+            if (n > 0) Check.same("answer(0) of " + n + " bytes", k.x.answer(0), 'v');
+            if (n > 0) Check.same("the last byte of " + n, k.x.answer(n - 1), 'v');
+        }
+    }
+
+    /** The ANSWER stays until the next get(), whatever is done with the key. */
+    private static void answerStays() {
+        Keep k = new Keep();
+        k.put("a", "one");
+        k.get("a");
+        k.put("a", "another");
+        k.remove("a");
+        k.x.sync();
+        k.x.mergeBegin();
+        k.x.mergeStep(9);
+        Check.same("the ANSWER", k.answer(), "one");
+        k.reopen(0);
+        Check.same("the ANSWER behind an opening", k.answer(), "one");
+        Check.same("get", k.get("a"), "-1");
+        Check.same("the ANSWER", k.answer(), "");
+    }
+
     /** Each byte of the RECORD counts; the HINT tells of it still. */
     private static void bad() {
         for (int i = 0; i < 19; i++) {
@@ -84,6 +129,9 @@ public final class GetTest {
     public static void main(String[] args) {
         ordinary();
         notThere();
+        longest();
+        answers();
+        answerStays();
         bad();
         another();
         closed();

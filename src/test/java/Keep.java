@@ -50,6 +50,15 @@ final class Keep {
         return x.open();
     }
 
+    /** WRITES RECORDS of the key k with so many bytes in all, at least 15. */
+    void fill(int n) {
+        for (int left = n; left > 0; ) {
+            int size = left <= 79 ? left : Math.min(79, left - 15);
+            put("k", "x".repeat(size - 15));
+            left -= size;
+        }
+    }
+
     byte[] bytes(int f) {
         byte[] b = new byte[Math.max(0, x.file(f, 2))];
         for (int i = 0; i < b.length; i++) b[i] = (byte) x.byteOf(f, i);

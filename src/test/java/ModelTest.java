@@ -44,7 +44,8 @@ public final class ModelTest {
             int most = lot.nextBoolean() ? 128 + lot.nextInt(200) : 128 + lot.nextInt(3969);
             both("format(" + capacity + "," + most + ")", () -> done(() -> x.format(capacity, most)), () -> done(() -> m.format(capacity, most)));
         }
-        int length = 100 + lot.nextInt(400);
+        // The last step may bring some seventy calls, and an object is promised for 512.
+        int length = 100 + lot.nextInt(330);
         while (right && calls.size() < length) step();
         return right;
     }

@@ -56,6 +56,57 @@ public final class PutTest {
         k.refuses("put of a closed store", IllegalStateException.class, 0, () -> k.x.put(99));
     }
 
+    /** "keySize is not 1 to 16, or above the tape's bytes, or the value has more than 64": each of them. */
+    private static void allSizes() {
+        int[] sizes = {Integer.MIN_VALUE, -80, -1, 0, 1, 2, 3, 14, 15, 16, 17, 18, 80, 81, 257, Integer.MAX_VALUE};
+        int[] tapes = {0, 1, 2, 14, 15, 16, 17, 18, 63, 64, 65, 66, 67, 78, 79, 80};
+        for (int tape : tapes) {
+            for (int size : sizes) {
+                Keep k = new Keep();
+                k.feed("x".repeat(tape));
+                String what = "put(" + size + ") of " + tape + " bytes";
+                if (size < 1 || size > 16 || size > tape || tape - size > 64) {
+                    k.refuses(what, IllegalArgumentException.class, 0, () -> k.x.put(size));
+                    continue;
+                }
+                Check.same(what, k.x.put(size), 1);
+                Check.same("KSIZE by " + what, k.x.entry(0, 0), size);
+                Check.same("VSIZE by " + what, k.x.entry(0, 1), tape - size);
+                Check.same("bytes by " + what, k.x.file(0, 2), 14 + tape);
+                Check.same("tape behind " + what, k.x.look(6), 0);
+            }
+        }
+    }
+
+    /** "KSIZE is 1 to 16, VSIZE 0 to 64": the least and the greatest, as they lie. */
+    private static void leastAndGreatest() {
+        String[][] pairs = {{"a", ""}, {"a", "v"}, {"a", "v".repeat(64)}, {"b".repeat(16), ""},
+            {"b".repeat(16), "v".repeat(64)}, {"\0", "\0"}, {"\u00ff", "\u00ff"}};
+        for (String[] pair : pairs) {
+            Keep k = new Keep();
+            k.put(pair[0], pair[1]);
+            Check.same("the RECORD", Arrays.toString(k.bytes(0)), Arrays.toString(Craft.record(1, pair[0], pair[1])));
+            Check.same("get", k.get(pair[0]), pair[1]);
+            Check.same("keys behind an opening", k.reopen(14 + pair[0].length() + pair[1].length()), 1);
+            Check.same("get behind an opening", k.get(pair[0]), pair[1]);
+        }
+    }
+
+    /** "ordered by their bytes (0 to 255), the shorter one ahead if it begins the longer one". */
+    private static void keyOrder() {
+        String[] keys = {"\0", "\0\0", "\0\1", "\1", "a", "a\0", "aa", "a\u0080", "b", "\u007f", "\u007f\u00ff", "\u0080",
+            "\u0080\0", "\u00fe", "\u00ff", "\u00ff".repeat(15), "\u00ff".repeat(16)};
+        Keep k = new Keep();
+        for (int i = 0; i < keys.length; i++) k.put(keys[i * 7 % keys.length], "");
+        Check.same("keys", k.x.look(11), keys.length);
+        for (int i = 0; i < keys.length; i++) {
+            Check.same("KSIZE in order", k.x.entry(i, 0), keys[i].length());
+            for (int j = 0; j < keys[i].length(); j++) Check.same("key(" + i + ", " + j + ")", k.x.key(i, j), keys[i].charAt(j));
+        }
+        k.reopen(k.x.look(5));
+        for (int i = 0; i < keys.length; i++) Check.same("STAMP in order", keys[(k.x.entry(i, 4) - 1) * 7 % keys.length], keys[i]);
+    }
+
     private static void full() {
         Keep k = Keep.formatted(128, 128);
         k.put("a", "x".repeat(64));
@@ -87,29 +138,15 @@ public final class PutTest {
         Check.same("files", k.files(), "2D61-0 3D16-0 3H23-0");
     }
 
-    private static void lastStamp() {
-        Keep k = new Keep();
-        k.put("a", "1");
-        k.x.crash(16);
-        k.patchNumber(0, 4, 999999999);
-        k.mendRecord(0, 0, 16);
-        Check.same("keys", k.x.open(), 1);
-        Check.same("the last STAMP", k.put("b", ""), 1000000000);
-        Check.same("the next one", k.x.look(12), 1000000001);
-        k.feed("b");
-        k.refuses("put without a STAMP", UnsupportedOperationException.class, 0, () -> k.x.put(1));
-        k.feed("b");
-        k.refuses("remove without a STAMP", UnsupportedOperationException.class, 0, () -> k.x.remove() ? 1 : 0);
-        Check.same("remove of a key that is not there", k.remove("c") ? 1 : 0, 0);
-    }
-
     public static void main(String[] args) {
         record();
         newFiles();
         wrongOnes();
+        allSizes();
+        leastAndGreatest();
+        keyOrder();
         full();
         fullByMerge();
-        lastStamp();
         Check.end();
     }
 }

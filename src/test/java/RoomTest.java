@@ -49,23 +49,23 @@ public final class RoomTest {
         staysSmall("many small records and merges", k -> {
             k.x.format(16384, 128);
             puts(k.x, 128, 3);
-            merges(k.x, 256);
+            merges(k.x, 254);
         });
         staysSmall("great records and merges of small files", k -> {
             k.x.format(16384, 128);
             puts(k.x, 50, 67);
-            merges(k.x, 212);
+            merges(k.x, 210);
         });
         staysSmall("great records and merges of great files", k -> {
             k.x.format(16384, 4096);
             puts(k.x, 50, 67);
-            merges(k.x, 212);
+            merges(k.x, 210);
         });
         staysSmall("openings", k -> {
             k.x.format(16384, 128);
             puts(k.x, 128, 3);
             k.x.sync();
-            for (int i = 0; i < 128; i++) k.reopen(0);
+            for (int i = 0; i < 127; i++) k.reopen(0);
         });
         staysSmall("formats", k -> {
             for (int i = 0; i < 170; i++) {

@@ -83,8 +83,118 @@ public final class SyncCrashTest {
         k.refuses("a wrong crash of a closed store", IllegalStateException.class, 4, () -> k.x.crash(-1));
     }
 
+    /** sync() with nothing written, with one byte more than that, and behind a crash. */
+    private static void syncOfNothing() {
+        Keep k = new Keep();
+        Check.same("sync() of a new store", k.x.sync(), 0);
+        k.put("a", "");
+        Check.same("sync() of the least RECORD", k.x.sync(), 15);
+        k.reopen(0);
+        Check.same("sync() behind an opening", k.x.sync(), 0);
+        k.put("b", "");
+        k.reopen(7);
+        Check.same("what stayed is synced", k.x.sync(), 0);
+        k.feed("tape");
+        k.x.sync();
+        Check.same("tape behind sync()", k.x.look(6), 4);
+    }
+
+    /** FINISH syncs all, also what WRITES brought; what comes behind it is UNSYNCED again. */
+    private static void syncByFinish() {
+        Keep k = new Keep();
+        k.put("a", "1");
+        k.x.mergeBegin();
+        k.put("b", "2");
+        Check.same("UNSYNCED", k.x.look(5), 32);
+        k.x.mergeStep(1);
+        Check.same("UNSYNCED", k.x.look(5), 48);
+        k.x.mergeStep(1);
+        Check.same("UNSYNCED behind FINISH", k.x.look(5), 0);
+        Check.same("sync() behind FINISH", k.x.sync(), 0);
+        k.put("c", "3");
+        k.x.mergeStep(1);
+        Check.same("UNSYNCED behind a REMOVAL", k.x.look(5), 16);
+        Check.same("crash(0)", k.x.crash(0), 16);
+        Check.same("files", k.files(), "2D16-0 3D16-0 3H23-0 4M12-0");
+    }
+
+    /** "kept is below 0, or there are not so many": each number, at no, few and many UNSYNCED bytes. */
+    private static void crashEdges() {
+        int[] counts = {0, 15, 32};
+        for (int count : counts) {
+            for (int kept = -2; kept <= count + 2; kept++) {
+                Keep k = new Keep();
+                k.put("s", "");
+                k.x.sync();
+                if (count > 0) k.fill(count);
+                int n = kept;
+                String what = "crash(" + kept + ") of " + count;
+                if (kept < 0 || kept > count) {
+                    k.refuses(what, IllegalArgumentException.class, 0, () -> k.x.crash(n));
+                    Check.same("OPEN behind " + what, k.x.look(0), 1);
+                    continue;
+                }
+                Check.same(what, k.x.crash(kept), count - kept);
+                Check.same("files behind " + what, k.files(), "1D" + (15 + kept) + "-0");
+                Check.same("OPEN behind " + what, k.x.look(0), 0);
+            }
+        }
+    }
+
+    /** "a file that has none then is gone": DATA and HINT; one with synced bytes stays. */
+    private static void crashOfEachByte() {
+        for (int kept = 0; kept <= 79 + 23 + 79 + 15; kept++) {
+            Keep k = Keep.formatted(4096, 128);
+            k.put("a", "x".repeat(64));
+            k.put("b", "x".repeat(64));
+            k.x.sync();
+            k.x.mergeBegin();
+            k.x.mergeStep(2);
+            k.put("c", "");
+            Check.same("crash(" + kept + ")", k.x.crash(kept), 196 - kept);
+            StringBuilder due = new StringBuilder("1D79-0 2D79-0");
+            String[] names = {" 3D", " 3H", " 4D", " 5D"};
+            int[] sizes = {79, 23, 79, 15};
+            int left = kept;
+            for (int i = 0; i < 4 && left > 0; i++) {
+                due.append(names[i]).append(Math.min(left, sizes[i])).append("-0");
+                left -= sizes[i];
+            }
+            Check.same("files behind crash(" + kept + ")", k.files(), due.toString());
+            Check.same("ROOM behind crash(" + kept + ")", k.x.look(4), 4096 - 158 - kept);
+            Check.same("keys behind crash(" + kept + ")", k.x.open(), kept == 196 ? 3 : 2);
+        }
+    }
+
+    /** The same bytes, but the WRITE comes ahead of the second copy: it goes ahead of it too. */
+    private static void crashByTurns() {
+        for (int kept = 0; kept <= 79 + 15 + 23 + 79; kept++) {
+            Keep k = Keep.formatted(4096, 128);
+            k.put("a", "x".repeat(64));
+            k.put("b", "x".repeat(64));
+            k.x.sync();
+            k.x.mergeBegin();
+            k.x.mergeStep(1);
+            k.put("c", "");
+            k.x.mergeStep(1);
+            k.x.crash(kept);
+            int written = Math.max(0, Math.min(15, kept - 79));
+            int hint = Math.max(0, Math.min(23, kept - 79 - 15));
+            int second = Math.max(0, kept - 79 - 15 - 23);
+            String due = "1D79-0 2D79-0" + (kept > 0 ? " 3D" + Math.min(79, kept) + "-0" : "") + (hint > 0 ? " 3H" + hint + "-0" : "")
+                + (written > 0 ? " 4D" + written + "-0" : "") + (second > 0 ? " 5D" + second + "-0" : "");
+            Check.same("files behind crash(" + kept + ")", k.files(), due);
+            Check.same("keys behind crash(" + kept + ")", k.x.open(), written == 15 ? 3 : 2);
+        }
+    }
+
     public static void main(String[] args) {
         sync();
+        syncOfNothing();
+        syncByFinish();
+        crashEdges();
+        crashOfEachByte();
+        crashByTurns();
         crashByFiles();
         crashOfTwoFiles();
         crashOfHints();

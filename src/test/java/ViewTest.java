@@ -70,6 +70,62 @@ public final class ViewTest {
         Check.same("key of a closed store", k.x.key(0, 0), -1);
     }
 
+    /** Without a file and without a key there is none, from the first index on. */
+    private static void ofNothing() {
+        Keep k = new Keep();
+        for (int i = -1; i <= 1; i++) {
+            for (int what = -1; what <= 5; what++) {
+                Check.same("file of no file", k.x.file(i, what), -1);
+                Check.same("byteOf of no file", k.x.byteOf(i, what), -1);
+                Check.same("entry of no key", k.x.entry(i, what), -1);
+                Check.same("key of no key", k.x.key(i, what), -1);
+            }
+            Check.same("answer of no ANSWER", k.x.answer(i), -1);
+        }
+    }
+
+    /** The first, the last and one above: of as many files and keys as there are, one more with each put. */
+    private static void lastAndBehind() {
+        Keep k = Keep.formatted(4096, 128);
+        for (int n = 1; n <= 4; n++) {
+            k.put("k" + n, "x".repeat(64));
+            Check.same("the last file", k.x.file(n - 1, 0), n);
+            Check.same("its last byte", k.x.byteOf(n - 1, 79), 'x');
+            Check.same("behind its last byte", k.x.byteOf(n - 1, 80), -1);
+            Check.same("behind the last file", k.x.file(n, 0), -1);
+            Check.same("a byte behind the last file", k.x.byteOf(n, 0), -1);
+            Check.same("the last key", k.x.entry(n - 1, 4), n);
+            Check.same("its last byte", k.x.key(n - 1, 1), '0' + n);
+            Check.same("behind its last byte", k.x.key(n - 1, 2), -1);
+            Check.same("ahead of its first byte", k.x.key(n - 1, -1), -1);
+            Check.same("behind the last key", k.x.entry(n, 4), -1);
+            Check.same("a byte behind the last key", k.x.key(n, 0), -1);
+        }
+        k.remove("k4");
+        Check.same("behind the last key", k.x.entry(3, 0), -1);
+        Check.same("a byte behind the last key", k.x.key(3, 0), -1);
+        k.x.format(128, 128);
+        ofNothing(k);
+    }
+
+    private static void ofNothing(Keep k) {
+        Check.same("file behind format()", k.x.file(0, 0), -1);
+        Check.same("byteOf behind format()", k.x.byteOf(0, 0), -1);
+        Check.same("entry behind format()", k.x.entry(0, 0), -1);
+        Check.same("key behind format()", k.x.key(0, 0), -1);
+    }
+
+    /** A key of 16 bytes: the last one, and none behind it. */
+    private static void longKey() {
+        Keep k = new Keep();
+        k.put("abcdefghijklmno\u00ff", "");
+        Check.same("KSIZE", k.x.entry(0, 0), 16);
+        Check.same("VSIZE", k.x.entry(0, 1), 0);
+        Check.same("the last byte", k.x.key(0, 15), 255);
+        Check.same("behind it", k.x.key(0, 16), -1);
+        Check.same("ahead of the first", k.x.key(0, -1), -1);
+    }
+
     private static void looks(String when, Keep k, int... due) {
         for (int what = 0; what < due.length; what++) Check.same("look(" + what + ") " + when, k.x.look(what), due[what]);
         Check.same("look(20) " + when, k.x.look(20), -1);
@@ -84,6 +140,20 @@ public final class ViewTest {
         looks("behind a crash", k, 0, 2048, 128, 5, 2048 - 264, 0, 4, 0, 0, 0, 0, -1, -1, -1, -1, -1, -1, -1, -1, -1);
         k.x.open();
         looks("behind an opening", k, 1, 2048, 128, 4, 2048 - 261, 0, 4, 1, 2, 3, 1, 2, 3, 5, -1, -1, 0, 0, 159, 238 - 159);
+    }
+
+    /** look(14) to look(17) from unit to unit, up to where a MERGE is over. */
+    private static void lookInMerge() {
+        Keep k = new Keep();
+        k.put("a", "");
+        k.put("b", "");
+        int[][] due = {{1, -1, 0, 0}, {-1, -1, 5, 30 + 38 + 12}, {-1, 2, 4, 15 + 38 + 12}, {-1, 2, 3, 38 + 12},
+            {-1, -1, 2, 0}, {-1, -1, 1, 0}, {-1, -1, 0, 0}};
+        for (int step = 0; step < due.length; step++) {
+            if (step == 1) Check.same("mergeBegin()", k.x.mergeBegin(), 5);
+            if (step > 1) Check.same("mergeStep(1)", k.x.mergeStep(1), due[step][2]);
+            for (int what = 14; what <= 17; what++) Check.same("look(" + what + "), step " + step, k.x.look(what), due[step][what - 14]);
+        }
     }
 
     /** Two keys at one PLACE, told by a patched HINT: the DATA files have fewer bytes than is LIVE. */
@@ -106,7 +176,11 @@ public final class ViewTest {
         file();
         byteOf();
         entryAndKey();
+        ofNothing();
+        lastAndBehind();
+        longKey();
         look();
+        lookInMerge();
         belowNothing();
         Check.end();
     }
