@@ -60,10 +60,11 @@ final class Craft {
     }
 
     /**
-     * DATA file 1 with the RECORDS of 16 times a (46 bytes) and 16 times b (66 bytes), 2 with that of
-     * c, 3 as file 1, with a HINT of these 1 to 68 bytes.
+     * OPEN, in a MERGE all of whose COPIES are done: DATA file 1 with the RECORDS of 16 times a (46
+     * bytes) and 16 times b (66 bytes), 2 with that of c; UNSYNCED 3 as file 1, its HINT of 68 bytes,
+     * 4 as file 2.
      */
-    static Keep hinted(byte[] hint) {
+    static Keep copied() {
         Keep k = Keep.formatted(4096, 128);
         k.put("a".repeat(16), "x".repeat(16));
         k.put("b".repeat(16), "y".repeat(36));
@@ -71,6 +72,12 @@ final class Craft {
         k.x.sync();
         k.x.mergeBegin();
         k.x.mergeStep(3);
+        return k;
+    }
+
+    /** Files 1, 2 and 3 of copied(), and a HINT of file 3 that has these 1 to 68 bytes. */
+    static Keep hinted(byte[] hint) {
+        Keep k = copied();
         k.x.crash(HINTED_DATA + hint.length);
         lay(k, 3, hint);
         return k;

@@ -174,13 +174,7 @@ public final class HintReadTest {
     /** What a crash leaves of a HINT that comes unsynced, byte by byte: GOOD only if it is all there. */
     private static void tornByCrash() {
         for (int n = 0; n <= 68; n++) {
-            Keep k = Keep.formatted(4096, 128);
-            k.put(A, "x".repeat(16));
-            k.put(B, "y".repeat(36));
-            k.put("c", "z".repeat(64));
-            k.x.sync();
-            k.x.mergeBegin();
-            k.x.mergeStep(3);
+            Keep k = Craft.copied();
             Check.same("keys, " + n + " bytes of the HINT", k.reopen(DATA + n), 3);
             Check.same("entries READ, " + n + " bytes", k.x.look(7), n == 68 ? 2 : 0);
             Check.same("files REMOVED, " + n + " bytes", k.x.look(10), n == 0 || n == 68 ? 0 : 1);

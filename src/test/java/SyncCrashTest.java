@@ -1,5 +1,15 @@
 /** Promises 8 and 9. */
 public final class SyncCrashTest {
+    /** Two synced RECORDS of 79 bytes, each of which will have an OUTPUT of its own. */
+    private static Keep merging() {
+        Keep k = Keep.formatted(4096, 128);
+        k.put("a", "x".repeat(64));
+        k.put("b", "x".repeat(64));
+        k.x.sync();
+        k.x.mergeBegin();
+        return k;
+    }
+
     private static void sync() {
         Keep k = Keep.formatted(1024, 128);
         k.put("a", "x".repeat(64));
@@ -53,11 +63,7 @@ public final class SyncCrashTest {
 
     /** The HINT of an OUTPUT comes ahead of the copy that needs the next one; FINISH syncs all. */
     private static void crashOfHints() {
-        Keep k = Keep.formatted(4096, 128);
-        k.put("a", "x".repeat(64));
-        k.put("b", "x".repeat(64));
-        k.x.sync();
-        k.x.mergeBegin();
+        Keep k = merging();
         k.x.mergeStep(2);
         Check.same("files", k.files(), "1D79-0 2D79-0 3D79-79 3H23-23 4D79-79");
         k.x.crash(79 + 23);
@@ -144,11 +150,7 @@ public final class SyncCrashTest {
     /** "a file that has none then is gone": DATA and HINT; one with synced bytes stays. */
     private static void crashOfEachByte() {
         for (int kept = 0; kept <= 79 + 23 + 79 + 15; kept++) {
-            Keep k = Keep.formatted(4096, 128);
-            k.put("a", "x".repeat(64));
-            k.put("b", "x".repeat(64));
-            k.x.sync();
-            k.x.mergeBegin();
+            Keep k = merging();
             k.x.mergeStep(2);
             k.put("c", "");
             Check.same("crash(" + kept + ")", k.x.crash(kept), 196 - kept);
@@ -169,11 +171,7 @@ public final class SyncCrashTest {
     /** The same bytes, but the WRITE comes ahead of the second copy: it goes ahead of it too. */
     private static void crashByTurns() {
         for (int kept = 0; kept <= 79 + 15 + 23 + 79; kept++) {
-            Keep k = Keep.formatted(4096, 128);
-            k.put("a", "x".repeat(64));
-            k.put("b", "x".repeat(64));
-            k.x.sync();
-            k.x.mergeBegin();
+            Keep k = merging();
             k.x.mergeStep(1);
             k.put("c", "");
             k.x.mergeStep(1);
