@@ -1,8 +1,9 @@
 import java.nio.charset.StandardCharsets;
+import java.util.Arrays;
 
 /** An AppendKeep that is fed with texts, and all that can be seen of it as one text. */
 final class Keep {
-    final AppendKeep x = new AppendKeep();
+    final Calls x = new Calls();
 
     static Keep formatted(int capacity, int fileMost) {
         Keep k = new Keep();
@@ -39,8 +40,12 @@ final class Keep {
     }
 
     String answer() {
+        return answer(x.views());
+    }
+
+    private static String answer(Calls.Views v) {
         StringBuilder text = new StringBuilder();
-        for (int i = 0; x.answer(i) != AppendKeep.NONE; i++) text.append((char) x.answer(i));
+        for (int i = 0; v.answer(i) != AppendKeep.NONE; i++) text.append((char) v.answer(i));
         return text.toString();
     }
 
@@ -60,28 +65,40 @@ final class Keep {
     }
 
     byte[] bytes(int f) {
-        byte[] b = new byte[Math.max(0, x.file(f, 2))];
-        for (int i = 0; i < b.length; i++) b[i] = (byte) x.byteOf(f, i);
+        return bytes(x.views(), f);
+    }
+
+    private static byte[] bytes(Calls.Views v, int f) {
+        byte[] b = new byte[Math.max(0, v.file(f, 2))];
+        for (int i = 0; i < b.length; i++) b[i] = (byte) v.byteOf(f, i);
         return b;
     }
 
     /** The files: NUMBER, KIND, bytes, UNSYNCED of each. */
     String files() {
+        return files(x.views());
+    }
+
+    private static String files(Calls.Views v) {
         StringBuilder text = new StringBuilder();
-        for (int f = 0; x.file(f, 0) != AppendKeep.NONE; f++) {
-            text.append(f == 0 ? "" : " ").append(x.file(f, 0)).append("DHM".charAt(x.file(f, 1)))
-                .append(x.file(f, 2)).append('-').append(x.file(f, 3));
+        for (int f = 0; v.file(f, 0) != AppendKeep.NONE; f++) {
+            text.append(f == 0 ? "" : " ").append(v.file(f, 0)).append("DHM".charAt(v.file(f, 1)))
+                .append(v.file(f, 2)).append('-').append(v.file(f, 3));
         }
         return text.toString();
     }
 
     /** The DIRECTORY: key, VSIZE, NUMBER, PLACE, STAMP of each. */
     String entries() {
+        return entries(x.views());
+    }
+
+    private static String entries(Calls.Views v) {
         StringBuilder text = new StringBuilder();
-        for (int i = 0; x.entry(i, 0) != AppendKeep.NONE; i++) {
+        for (int i = 0; v.entry(i, 0) != AppendKeep.NONE; i++) {
             text.append(i == 0 ? "" : " ");
-            for (int j = 0; x.key(i, j) != AppendKeep.NONE; j++) text.append((char) x.key(i, j));
-            for (int what = 1; what < 5; what++) text.append(what == 1 ? ":" : ",").append(x.entry(i, what));
+            for (int j = 0; v.key(i, j) != AppendKeep.NONE; j++) text.append((char) v.key(i, j));
+            for (int what = 1; what < 5; what++) text.append(what == 1 ? ":" : ",").append(v.entry(i, what));
         }
         return text.toString();
     }
@@ -103,10 +120,11 @@ final class Keep {
 
     /** All but how many bytes the tape has. */
     String all() {
+        Calls.Views v = x.views();
         StringBuilder text = new StringBuilder();
-        for (int what = 0; what < 20; what++) text.append(what == 6 ? 0 : x.look(what)).append(' ');
-        text.append('|').append(files()).append('|').append(entries()).append('|').append(answer());
-        for (int f = 0; f < x.look(3); f++) text.append('|').append(java.util.Arrays.toString(bytes(f)));
+        for (int what = 0; what < 20; what++) text.append(what == 6 ? 0 : v.look(what)).append(' ');
+        text.append('|').append(files(v)).append('|').append(entries(v)).append('|').append(answer(v));
+        for (int f = 0; f < v.look(3); f++) text.append('|').append(Arrays.toString(bytes(v, f)));
         return text.toString();
     }
 

@@ -62,6 +62,13 @@ public final class MarkReadTest {
         }
     }
 
+    /** The SUM is none of the NUMBERS: here it is 2, as file 2 has it. */
+    private static void sumIsNoNumber() {
+        byte[] mark = Craft.mark(2, 1, 0xC1BCAF68);
+        Check.same("the SUM", Model.four(mark, 12), 2);
+        opened("a SUM of 2", mark, 2, "2D16-0 3D32-0 3H40-0");
+    }
+
     /** All DATA files go by the MARK: no key is left, but the next NUMBER counts them. */
     private static void allGone() {
         Keep k = Craft.marked(1, Craft.mark(1, 2));
@@ -101,6 +108,7 @@ public final class MarkReadTest {
         ofOtherSizes();
         sums();
         numbers();
+        sumIsNoNumber();
         allGone();
         finishes();
         Check.end();

@@ -10,7 +10,7 @@ public final class ModelTest {
         Integer.MIN_VALUE, Integer.MAX_VALUE, 0x40000000, 128, 255, 256};
 
     private final Random lot;
-    private final AppendKeep x = new AppendKeep();
+    private final Calls x = new Calls();
     private final Model m = new Model();
     private final List<String> calls = new ArrayList<>();
     private final int keys;
@@ -24,7 +24,7 @@ public final class ModelTest {
     }
 
     public static void main(String[] args) {
-        int runs = args.length > 0 ? Integer.parseInt(args[0]) : 400;
+        int runs = args.length > 0 ? Integer.parseInt(args[0]) : 600;
         long first = args.length > 1 ? Long.parseLong(args[1]) : 0;
         for (long seed = first; seed < first + runs; seed++) {
             ModelTest t = new ModelTest(seed);
@@ -44,9 +44,10 @@ public final class ModelTest {
             int most = lot.nextBoolean() ? 128 + lot.nextInt(200) : 128 + lot.nextInt(3969);
             both("format(" + capacity + "," + most + ")", () -> done(() -> x.format(capacity, most)), () -> done(() -> m.format(capacity, most)));
         }
-        // The last step may bring some seventy calls, and an object is promised for 512.
-        int length = 100 + lot.nextInt(330);
-        while (right && calls.size() < length) step();
+        int length = 60 + lot.nextInt(300);
+        // A step may bring some eighty calls, and some must be left to look.
+        while (right && calls.size() < length && x.left() > 120) step();
+        seenAll();
         return right;
     }
 
@@ -64,7 +65,14 @@ public final class ModelTest {
             right = false;
             System.out.println(name + " answered " + got + ", due is " + want);
         }
-        seen();
+        // Looking at the object itself must not change it; to look at all of it takes other ones.
+        if (lot.nextInt(3) == 0) seenSome();
+        if (lot.nextInt(20) == 0) seenAll();
+    }
+
+    private void seenSome() {
+        int what = lot.nextInt(20);
+        seenOne("look(" + what + ")", x.look(what), m.look(what));
     }
 
     private void seenOne(String name, int got, int want) {
@@ -74,34 +82,35 @@ public final class ModelTest {
         }
     }
 
-    private void seen() {
-        for (int what = -1; what <= 20; what++) seenOne("look(" + what + ")", x.look(what), m.look(what));
+    private void seenAll() {
+        Calls.Views v = x.views();
+        for (int what = -1; what <= 20; what++) seenOne("look(" + what + ")", v.look(what), m.look(what));
         int f = 0;
         for (Map.Entry<Model.Id, byte[]> e : m.files.entrySet()) {
             byte[] b = e.getValue();
-            seenOne("file(" + f + ",0)", x.file(f, 0), e.getKey().number());
-            seenOne("file(" + f + ",1)", x.file(f, 1), e.getKey().kind());
-            seenOne("file(" + f + ",2)", x.file(f, 2), b.length);
-            seenOne("file(" + f + ",3)", x.file(f, 3), (int) m.came.stream().filter(e.getKey()::equals).count());
-            for (int i = 0; i < b.length; i++) seenOne("byteOf(" + f + "," + i + ")", x.byteOf(f, i), b[i] & 255);
-            seenOne("byteOf behind", x.byteOf(f, b.length), -1);
+            seenOne("file(" + f + ",0)", v.file(f, 0), e.getKey().number());
+            seenOne("file(" + f + ",1)", v.file(f, 1), e.getKey().kind());
+            seenOne("file(" + f + ",2)", v.file(f, 2), b.length);
+            seenOne("file(" + f + ",3)", v.file(f, 3), (int) m.came.stream().filter(e.getKey()::equals).count());
+            for (int i = 0; i < b.length; i++) seenOne("byteOf(" + f + "," + i + ")", v.byteOf(f, i), b[i] & 255);
+            seenOne("byteOf behind", v.byteOf(f, b.length), -1);
             f++;
         }
-        seenOne("file behind", x.file(f, 0), -1);
+        seenOne("file behind", v.file(f, 0), -1);
         int i = 0;
         if (m.open) {
             for (Map.Entry<byte[], Model.Told> e : m.directory.entrySet()) {
                 Model.Told t = e.getValue();
                 int[] told = {e.getKey().length, t.vsize(), t.number(), t.place(), t.stamp(), -1};
-                for (int what = 0; what < told.length; what++) seenOne("entry(" + i + "," + what + ")", x.entry(i, what), told[what]);
-                for (int j = 0; j < told[0]; j++) seenOne("key(" + i + "," + j + ")", x.key(i, j), e.getKey()[j] & 255);
-                seenOne("key behind", x.key(i, told[0]), -1);
+                for (int what = 0; what < told.length; what++) seenOne("entry(" + i + "," + what + ")", v.entry(i, what), told[what]);
+                for (int j = 0; j < told[0]; j++) seenOne("key(" + i + "," + j + ")", v.key(i, j), e.getKey()[j] & 255);
+                seenOne("key behind", v.key(i, told[0]), -1);
                 i++;
             }
-            seenOne("bad()", x.bad(), m.bad());
+            seenOne("bad()", v.bad(), m.bad());
         }
-        seenOne("entry behind", x.entry(i, 0), -1);
-        for (int j = 0; j <= m.answer.length; j++) seenOne("answer(" + j + ")", x.answer(j), j < m.answer.length ? m.answer[j] & 255 : -1);
+        seenOne("entry behind", v.entry(i, 0), -1);
+        for (int j = 0; j <= m.answer.length; j++) seenOne("answer(" + j + ")", v.answer(j), j < m.answer.length ? m.answer[j] & 255 : -1);
     }
 
     private void feed(byte[] bytes) {

@@ -8,7 +8,7 @@ public final class RoomTest {
     private static final long MOST = 3000000;
 
     private interface Run {
-        void of(Keep k);
+        void of(AppendKeep x);
     }
 
     private static long made() {
@@ -17,10 +17,10 @@ public final class RoomTest {
     }
 
     private static void staysSmall(String what, Run run) {
-        run.of(new Keep());
-        Keep k = new Keep();
+        run.of(new AppendKeep());
+        AppendKeep x = new AppendKeep();
         long before = made();
-        run.of(k);
+        run.of(x);
         long bytes = made() - before;
         System.out.println(what + ": " + bytes + " bytes");
         Check.same(what + " makes too much", bytes > MOST ? 1 : 0, 0);
@@ -41,36 +41,39 @@ public final class RoomTest {
     }
 
     public static void main(String[] args) {
-        staysSmall("512 new objects", k -> {
+        staysSmall("512 new objects", x -> {
             AppendKeep last = null;
             for (int i = 0; i < 512; i++) last = new AppendKeep();
             Check.same("the last one is open", last.look(0), 1);
         });
-        staysSmall("many small records and merges", k -> {
-            k.x.format(16384, 128);
-            puts(k.x, 128, 3);
-            merges(k.x, 254);
+        staysSmall("many small records and merges", x -> {
+            x.format(16384, 128);
+            puts(x, 128, 3);
+            merges(x, 254);
         });
-        staysSmall("great records and merges of small files", k -> {
-            k.x.format(16384, 128);
-            puts(k.x, 50, 67);
-            merges(k.x, 210);
+        staysSmall("great records and merges of small files", x -> {
+            x.format(16384, 128);
+            puts(x, 50, 67);
+            merges(x, 210);
         });
-        staysSmall("great records and merges of great files", k -> {
-            k.x.format(16384, 4096);
-            puts(k.x, 50, 67);
-            merges(k.x, 210);
+        staysSmall("great records and merges of great files", x -> {
+            x.format(16384, 4096);
+            puts(x, 50, 67);
+            merges(x, 210);
         });
-        staysSmall("openings", k -> {
-            k.x.format(16384, 128);
-            puts(k.x, 128, 3);
-            k.x.sync();
-            for (int i = 0; i < 127; i++) k.reopen(0);
+        staysSmall("openings", x -> {
+            x.format(16384, 128);
+            puts(x, 128, 3);
+            x.sync();
+            for (int i = 0; i < 127; i++) {
+                x.crash(0);
+                x.open();
+            }
         });
-        staysSmall("formats", k -> {
+        staysSmall("formats", x -> {
             for (int i = 0; i < 170; i++) {
-                k.x.format(16384, 4096);
-                puts(k.x, 1, 16);
+                x.format(16384, 4096);
+                puts(x, 1, 16);
             }
         });
         Check.end();
