@@ -499,6 +499,13 @@ public final class AppendKeep {
     private static final class Arrival {
         private DiskFile file;
         private int count;
+
+        /** The last n of them go. */
+        void lose(int n) {
+            if (file != null) {
+                file.bytes.cutTo(file.bytes.size() - n);
+            }
+        }
     }
 
     /** THE DISK: its files in their order, and in which order the UNSYNCED bytes came. */
@@ -632,10 +639,12 @@ public final class AppendKeep {
         void loseLast(int n) {
             int left = n;
             for (int i = arrivalCount - 1; i >= 0 && left > 0; i--) {
-                Arrival arrival = arrivals.get(i);
-                int lost = Math.min(left, arrival.count);
-                arrival.file.bytes.cutTo(arrival.file.bytes.size() - lost);
-                left -= lost;
+                Arrival arrival = arrivalAt(i);
+                if (arrival != null) {
+                    int lost = Math.min(left, arrival.count);
+                    arrival.lose(lost);
+                    left -= lost;
+                }
             }
             for (int i = files.size() - 1; i >= 0; i--) {
                 if (files.get(i).bytes.size() == 0) {
@@ -674,18 +683,23 @@ public final class AppendKeep {
         // No file with UNSYNCED bytes is ever REMOVED (a MERGE syncs ahead of its REMOVALS, and
         // OPENINGS come behind crashes), so an arrival's file is on the disk while it counts.
         private void noteArrival(DiskFile file, int n) {
-            Arrival last = arrivalCount > 0 ? arrivals.get(arrivalCount - 1) : null;
+            Arrival last = arrivalAt(arrivalCount - 1);
             if (last != null && last.file == file) {
                 last.count += n;
                 return;
             }
-            if (arrivalCount == arrivals.size()) {
-                arrivals.add(new Arrival());
+            Arrival next = arrivalAt(arrivalCount);
+            if (next == null) {
+                next = new Arrival();
+                arrivals.add(next);
             }
-            Arrival next = arrivals.get(arrivalCount);
             next.file = file;
             next.count = n;
             arrivalCount++;
+        }
+
+        private Arrival arrivalAt(int i) {
+            return i >= 0 && i < arrivals.size() ? arrivals.get(i) : null;
         }
     }
 

@@ -186,6 +186,32 @@ public final class SyncCrashTest {
         }
     }
 
+    private static int part(int kept, int ahead, int size) {
+        return Math.max(0, Math.min(size, kept - ahead));
+    }
+
+    /** Several WRITES one behind the other, between two copies: what came last of all files goes first. */
+    private static void crashOfSeveralWrites() {
+        for (int kept = 0; kept <= 16 + 45 + 16 + 30; kept++) {
+            Keep k = new Keep();
+            k.put("a", "1");
+            k.put("b", "2");
+            k.x.sync();
+            k.x.mergeBegin();
+            k.x.mergeStep(1);
+            for (String key : new String[] {"c", "d", "e"}) k.put(key, "");
+            k.x.mergeStep(1);
+            for (String key : new String[] {"f", "g"}) k.put(key, "");
+            Check.same("crash(" + kept + ")", k.x.crash(kept), 107 - kept);
+            int copied = part(kept, 0, 16) + part(kept, 16 + 45, 16);
+            int written = part(kept, 16, 45) + part(kept, 16 + 45 + 16, 30);
+            String due = "1D32-0" + (copied > 0 ? " 2D" + copied + "-0" : "") + (written > 0 ? " 3D" + written + "-0" : "");
+            Check.same("files behind crash(" + kept + ")", k.files(), due);
+            Check.same("keys behind crash(" + kept + ")", k.x.open(), 2 + written / 15);
+            Check.same("bytes CUT behind crash(" + kept + ")", k.x.look(9), copied % 16 + written % 15);
+        }
+    }
+
     public static void main(String[] args) {
         sync();
         syncOfNothing();
@@ -195,6 +221,7 @@ public final class SyncCrashTest {
         crashByTurns();
         crashByFiles();
         crashOfTwoFiles();
+        crashOfSeveralWrites();
         crashOfHints();
         wrongOnes();
         Check.end();
