@@ -33,7 +33,11 @@ public final class FaceTest {
         return m.toGenericString().replace("public ", "").replace("AppendKeep.", "").replace("java.lang.", "");
     }
 
-    public static void main(String[] args) {
+    private static String told(Field f) {
+        return f.toGenericString().replace("public ", "").replace("AppendKeep.", "");
+    }
+
+    public static void main(String[] args) throws NoSuchFieldException {
         Class<AppendKeep> c = AppendKeep.class;
         Set<String> face = new TreeSet<>();
         Set<String> names = new TreeSet<>();
@@ -56,6 +60,7 @@ public final class FaceTest {
             boolean isStatic = Modifier.isStatic(f.getModifiers());
             Check.same(f + " is final if static", !isStatic || Modifier.isFinal(f.getModifiers()) ? 1 : 0, 1);
         }
+        Check.same("the constant", told(c.getField("NONE")), "static final int NONE");
         Constructor<?>[] constructors = c.getDeclaredConstructors();
         Check.same("constructors", constructors.length, 1);
         Check.same("its parameters", constructors[0].getParameterCount(), 0);

@@ -172,7 +172,37 @@ public final class ViewTest {
         Check.same("look(19)", k.x.look(19), 95 - 158);
     }
 
+    private static String seen(Keep k) {
+        StringBuilder text = new StringBuilder();
+        for (int what = -1; what <= 20; what++) text.append(k.x.look(what)).append(' ');
+        for (int i = -1; i <= 6; i++) {
+            text.append(k.x.answer(i)).append('|');
+            for (int what = -1; what <= 5; what++) {
+                text.append(k.x.file(i, what)).append(' ').append(k.x.byteOf(i, what)).append(' ');
+            }
+        }
+        for (int i = -1; i <= 3; i++) {
+            for (int what = -1; what <= 5; what++) text.append(k.x.entry(i, what)).append(' ').append(k.x.key(i, what)).append(' ');
+        }
+        return text.toString();
+    }
+
+    /** To look changes nothing: one object answers the same a second time, and then does what it is to do. */
+    private static void lookingChangesNothing() {
+        Keep k = busy();
+        Check.same("the same in a MERGE", seen(k), seen(k));
+        Check.same("bad()", k.x.bad(), 0);
+        Check.same("mergeStep(1)", k.x.mergeStep(1), 3);
+        Check.same("crash(0)", k.x.crash(0), 0);
+        Keep closed = busy();
+        closed.x.crash(105);
+        Check.same("the same while it is not OPEN", seen(closed), seen(closed));
+        Check.same("open()", closed.x.open(), 2);
+        Check.same("bytes CUT", closed.x.look(9), 3);
+    }
+
     public static void main(String[] args) {
+        lookingChangesNothing();
         file();
         byteOf();
         entryAndKey();
