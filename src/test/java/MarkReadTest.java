@@ -86,6 +86,23 @@ public final class MarkReadTest {
         Check.same("the next STAMP", k.x.look(12), 1);
     }
 
+    /** A MARK that is the disk's only file: its NUMBERS name none any more, but it is REMOVED. */
+    private static void alone() {
+        Keep k = new Keep();
+        k.put("a", "");
+        k.remove("a");
+        k.x.mergeBegin();
+        Check.same("FINISH and the INPUT", k.x.mergeStep(2), 1);
+        Check.same("crash(0)", k.x.crash(0), 0);
+        Check.same("files", k.files(), "2M12-0");
+        Check.same("keys", k.x.open(), 0);
+        Check.same("files", k.files(), "");
+        Check.same("files REMOVED", k.x.look(10), 1);
+        Check.same("ROOM", k.x.look(4), 4096);
+        Check.same("the next NUMBER", k.x.look(13), 3);
+        Check.same("the next STAMP", k.x.look(12), 1);
+    }
+
     /** A MARK that is there behind a part of the REMOVALS: the opening does the others. */
     private static void finishes() {
         for (int done = 0; done <= 4; done++) {
@@ -110,6 +127,7 @@ public final class MarkReadTest {
         numbers();
         sumIsNoNumber();
         allGone();
+        alone();
         finishes();
         Check.end();
     }

@@ -92,19 +92,42 @@ public final class PutTest {
         }
     }
 
-    /** "ordered by their bytes (0 to 255), the shorter one ahead if it begins the longer one". */
-    private static void keyOrder() {
-        String[] keys = {"\0", "\0\0", "\0\1", "\1", "a", "a\0", "aa", "a\u0080", "b", "\u007f", "\u007f\u00ff", "\u0080",
-            "\u0080\0", "\u00fe", "\u00ff", "\u00ff".repeat(15), "\u00ff".repeat(16)};
-        Keep k = new Keep();
-        for (int i = 0; i < keys.length; i++) k.put(keys[i * 7 % keys.length], "");
-        Check.same("keys", k.x.look(11), keys.length);
-        for (int i = 0; i < keys.length; i++) {
-            Check.same("KSIZE in order", k.x.entry(i, 0), keys[i].length());
-            for (int j = 0; j < keys[i].length(); j++) Check.same("key(" + i + ", " + j + ")", k.x.key(i, j), keys[i].charAt(j));
+    private static final String[] KEYS = {"\0", "\0\0", "\0\1", "\1", "a", "a\0", "aa", "a\u0080", "b", "\u007f", "\u007f\u00ff",
+        "\u0080", "\u0080\0", "\u00fe", "\u00ff", "\u00ff".repeat(15), "\u00ff".repeat(16)};
+
+    /** Which of the keys has the STAMP, by the order in which they were put. */
+    private static String keyOf(int stamp) {
+        return KEYS[(stamp - 1) * 7 % KEYS.length];
+    }
+
+    private static void inOrder(String when, Keep k) {
+        Check.same("keys " + when, k.x.look(11), KEYS.length);
+        for (int i = 0; i < KEYS.length; i++) {
+            Check.same("KSIZE in order " + when, k.x.entry(i, 0), KEYS[i].length());
+            Check.same("STAMP in order " + when, keyOf(k.x.entry(i, 4)), KEYS[i]);
         }
-        k.reopen(k.x.look(5));
-        for (int i = 0; i < keys.length; i++) Check.same("STAMP in order", keys[(k.x.entry(i, 4) - 1) * 7 % keys.length], keys[i]);
+    }
+
+    /**
+     * "ordered by their bytes (0 to 255), the shorter one ahead if it begins the longer one": whatever
+     * value lies behind the key, on the tape, in a RECORD and where a HINT tells of it.
+     */
+    private static void keyOrder() {
+        for (String value : new String[] {"", "\0", "a", "\u0080", "\u00ff", "\u00ff\u00ff"}) {
+            Keep k = new Keep();
+            for (int i = 1; i <= KEYS.length; i++) k.put(keyOf(i), value);
+            inOrder("behind put()", k);
+            for (int i = 0; i < KEYS.length; i++) {
+                for (int j = 0; j < KEYS[i].length(); j++) Check.same("key(" + i + ", " + j + ")", k.x.key(i, j), KEYS[i].charAt(j));
+            }
+            k.reopen(k.x.look(5));
+            inOrder("by RECORDS", k);
+            k.x.mergeBegin();
+            k.x.mergeStep(99);
+            k.reopen(0);
+            Check.same("entries READ", k.x.look(7), KEYS.length);
+            inOrder("by HINTS", k);
+        }
     }
 
     private static void full() {
